@@ -448,13 +448,13 @@ public final class PrisonWeddings {
         }
 
         private static int numbersOf(char letter) {
-            switch (letter) {
-                case 'm': return 3;
-                case 'w': return 3;
-                case 'p': return 2;
-                case 'l': return 1;
-                default: return 0;
+            if (letter == 'm' || letter == 'w') {
+                return 3;
             }
+            if (letter == 'p') {
+                return 2;
+            }
+            return letter == 'l' ? 1 : 0;
         }
 
         /** Answers the place behind the sign that ends the number, or NONE if it is not so. */
@@ -477,12 +477,10 @@ public final class PrisonWeddings {
         }
 
         private boolean enter(char letter) {
-            switch (letter) {
-                case 'm': return enterPerson(false);
-                case 'w': return enterPerson(true);
-                case 'p': return enterParson();
-                default: return enterLaw();
+            if (letter == 'm' || letter == 'w') {
+                return enterPerson(letter == 'w');
             }
+            return letter == 'p' ? enterParson() : enterLaw();
         }
 
         private boolean enterPerson(boolean isWoman) {
@@ -524,7 +522,7 @@ public final class PrisonWeddings {
         }
 
         boolean areTwo(int a, int b) {
-            return isPerson(a) && isPerson(b) && a != b;
+            return a != b && a >= 0 && a < persons && b >= 0 && b < persons;
         }
 
         boolean canPair(int a, int b) {

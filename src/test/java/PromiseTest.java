@@ -788,6 +788,10 @@ final class PromiseTest {
         PrisonWeddings x = new PrisonWeddings();
         is("holds", x.gaol(5, 40, 0), 3);
         is("coins", x.gaol(5, 40, 1), 31);
+        is("z 0, n 1: alike, so no wedding", x.gaol(0, 1, 0), 0);
+        is("z 0, n 1: no coins", x.gaol(0, 1, 1), 0);
+        is("z 9999", x.gaol(9999, 1, 0), aDayOf(9999));
+        is("z 3", x.gaol(3, 1, 0), aDayOf(3));
         is("z -1", x.gaol(-1, 1, 0), BAD);
         is("z 10000", x.gaol(10000, 1, 0), BAD);
         is("n 0", x.gaol(0, 0, 0), BAD);
@@ -801,6 +805,13 @@ final class PromiseTest {
         x.pass(30);
         is("behind the law those that hold", x.gaol(9999, 40, 0), 1);
         is("behind the law no coins", x.gaol(9999, 40, 1), 0);
+    }
+
+    /** The first day of a GAOL, from the document's words alone, for a new object. */
+    private static int aDayOf(int z) {
+        long x = 7919L * z + 1;
+        int drawn = (int) (x * x % 65521);
+        return new PrisonWeddings().wed(drawn % 3, drawn / 4 % 7, drawn / 32 % 7) == 0 ? 1 : 0;
     }
 
     private static void promise28and29() {
