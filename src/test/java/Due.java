@@ -19,6 +19,10 @@ final class Due {
         }
     }
 
+    int asked() {
+        return passed + failed;
+    }
+
     boolean hasFailed() {
         return failed > 0;
     }

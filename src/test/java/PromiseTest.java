@@ -1,6 +1,6 @@
 /** For each promise ordinary calls, the edges that the document names, and wrong numbers. */
 final class PromiseTest {
-    private static final int BAD = -1, NO = -2, FULL = -3, NONE = -4;
+    private static final int BAD = Play.BAD, NO = Play.NO, FULL = Play.FULL, NONE = Play.NONE;
     private static final Due due = new Due();
 
     public static void main(String[] args) {
@@ -40,25 +40,6 @@ final class PromiseTest {
 
     private static void is(String call, long got, long want) {
         due.same(call, got, want);
-    }
-
-    private static void writeAll(PrisonWeddings x, String text) {
-        for (int i = 0; i < text.length(); i++) {
-            x.write(text.charAt(i));
-        }
-    }
-
-    private static PrisonWeddings laid(String text) {
-        PrisonWeddings x = new PrisonWeddings();
-        writeAll(x, text);
-        x.lay();
-        return x;
-    }
-
-    private static int faultOf(String text) {
-        PrisonWeddings x = new PrisonWeddings();
-        writeAll(x, text);
-        return x.fault();
     }
 
     private static void promise1() {
@@ -111,53 +92,53 @@ final class PromiseTest {
 
     private static void promise4items() {
         part("promise 4");
-        is("empty", faultOf(""), NONE);
-        is("a man", faultOf("m0,1,2;"), NONE);
-        is("two figures", faultOf("m00,05,09;w2,60,60;p02,20;l01;l99;"), NONE);
-        is("kind 3", faultOf("m0,1,2;m3,1,2;"), 7);
-        is("debts 61", faultOf("m0,61,2;"), 0);
-        is("coins 61", faultOf("p0,1;w0,1,61;"), 5);
-        is("woman's kind 3", faultOf("p0,1;w3,1,6;"), 5);
-        is("price 20", faultOf("p2,20;"), NONE);
-        is("price 21", faultOf("p2,21;"), 0);
-        is("parson's kind 3", faultOf("p3,2;"), 0);
-        is("law 0", faultOf("l1;l0;"), 3);
-        is("law 100", faultOf("l100;"), 0);
-        is("three figures", faultOf("m0,001,2;"), 0);
-        is("no figure", faultOf("m0,,2;"), 0);
-        is("too few numbers", faultOf("m0,1;"), 0);
-        is("too many numbers", faultOf("m0,1,2,3;"), 0);
-        is("no end", faultOf("l3;m0,1,2"), 3);
-        is("no end of a number", faultOf("l3;l4"), 3);
-        is("only a letter", faultOf("l3;w"), 3);
-        is("a letter that is none", faultOf("l3;x1;"), 3);
-        is("capital", faultOf("M0,1,2;"), 0);
-        is("a blank", faultOf("l3; l4;"), 3);
-        is("a second end", faultOf("l3;;"), 3);
-        is("number first", faultOf("3l;"), 0);
-        is("minus", faultOf("l-3;"), 0);
-        is("the first of two", faultOf("l3;q;z;"), 3);
-        is("sign behind 9", faultOf("l:;"), 0);
-        is("sign ahead of 0", faultOf("l/;"), 0);
+        is("empty", Play.faultOf(""), NONE);
+        is("a man", Play.faultOf("m0,1,2;"), NONE);
+        is("two figures", Play.faultOf("m00,05,09;w2,60,60;p02,20;l01;l99;"), NONE);
+        is("kind 3", Play.faultOf("m0,1,2;m3,1,2;"), 7);
+        is("debts 61", Play.faultOf("m0,61,2;"), 0);
+        is("coins 61", Play.faultOf("p0,1;w0,1,61;"), 5);
+        is("woman's kind 3", Play.faultOf("p0,1;w3,1,6;"), 5);
+        is("price 20", Play.faultOf("p2,20;"), NONE);
+        is("price 21", Play.faultOf("p2,21;"), 0);
+        is("parson's kind 3", Play.faultOf("p3,2;"), 0);
+        is("law 0", Play.faultOf("l1;l0;"), 3);
+        is("law 100", Play.faultOf("l100;"), 0);
+        is("three figures", Play.faultOf("m0,001,2;"), 0);
+        is("no figure", Play.faultOf("m0,,2;"), 0);
+        is("too few numbers", Play.faultOf("m0,1;"), 0);
+        is("too many numbers", Play.faultOf("m0,1,2,3;"), 0);
+        is("no end", Play.faultOf("l3;m0,1,2"), 3);
+        is("no end of a number", Play.faultOf("l3;l4"), 3);
+        is("only a letter", Play.faultOf("l3;w"), 3);
+        is("a letter that is none", Play.faultOf("l3;x1;"), 3);
+        is("capital", Play.faultOf("M0,1,2;"), 0);
+        is("a blank", Play.faultOf("l3; l4;"), 3);
+        is("a second end", Play.faultOf("l3;;"), 3);
+        is("number first", Play.faultOf("3l;"), 0);
+        is("minus", Play.faultOf("l-3;"), 0);
+        is("the first of two", Play.faultOf("l3;q;z;"), 3);
+        is("sign behind 9", Play.faultOf("l:;"), 0);
+        is("sign ahead of 0", Play.faultOf("l/;"), 0);
     }
 
     private static void promise4limits() {
         part("promise 4, how many");
         String eight = "m0,1,2;w0,1,2;m0,1,2;w0,1,2;m0,1,2;w0,1,2;m0,1,2;w0,1,2;";
-        is("8 persons", faultOf(eight), NONE);
-        is("9 persons", faultOf(eight + "l3;m0,1,2;"), 59);
-        is("9 persons, a woman", faultOf(eight + "w0,1,2;"), 56);
-        is("3 parsons", faultOf("p0,1;p0,1;p0,1;"), NONE);
-        is("4 parsons", faultOf("p0,1;p0,1;p0,1;p0,1;"), 15);
+        is("8 persons", Play.faultOf(eight), NONE);
+        is("9 persons", Play.faultOf(eight + "l3;m0,1,2;"), 59);
+        is("9 persons, a woman", Play.faultOf(eight + "w0,1,2;"), 56);
+        is("3 parsons", Play.faultOf("p0,1;p0,1;p0,1;"), NONE);
+        is("4 parsons", Play.faultOf("p0,1;p0,1;p0,1;p0,1;"), 15);
         is("wiped and right", faultAfterWipe(), NONE);
     }
 
     private static int faultAfterWipe() {
         PrisonWeddings x = new PrisonWeddings();
-        writeAll(x, "junk");
+        Play.writeAll(x, "junk");
         is("junk", x.fault(), 0);
         x.wipe();
-        writeAll(x, "l5;");
+        Play.writeAll(x, "l5;");
         return x.fault();
     }
 
@@ -169,14 +150,14 @@ final class PromiseTest {
         x.keep();
         x.see(0, 3, 1, true);
         x.pass(3);
-        writeAll(x, "m0,1,9;");
+        Play.writeAll(x, "m0,1,9;");
         is("no parson", x.lay(), NO);
         is("all stands", x.count(2), 3);
         is("all stays", x.count(0), 7);
         x.wipe();
-        writeAll(x, "p0,1;");
+        Play.writeAll(x, "p0,1;");
         is("no person", x.lay(), NO);
-        writeAll(x, "m0,1,9;w1,2,3;");
+        Play.writeAll(x, "m0,1,9;w1,2,3;");
         is("laid", x.lay(), 2);
         int[] counts = {2, 1, 0, 60, 0, 0, 0, 0, 0, 0, 19};
         for (int what = 0; what < counts.length; what++) {
@@ -191,14 +172,14 @@ final class PromiseTest {
         is("laid again", x.lay(), 2);
         is("coins again", x.person(0, 3), 9);
         is("no lines", x.parson(0, 2), 0);
-        writeAll(x, "z");
+        Play.writeAll(x, "z");
         is("fault", x.lay(), NO);
         is("law, the last", lawOf("m0,1,1;p0,1;l5;l7;"), 7);
         is("law, none", lawOf("m0,1,1;p0,1;"), 60);
     }
 
     private static int lawOf(String text) {
-        return laid(text).count(3);
+        return Play.laid(text).count(3);
     }
 
     private static void promise6() {
@@ -226,7 +207,7 @@ final class PromiseTest {
     }
 
     private static int oddWidow() {
-        PrisonWeddings x = laid("m0,10,9;w1,7,3;p0,1;");
+        PrisonWeddings x = Play.laid("m0,10,9;w1,7,3;p0,1;");
         x.wed(0, 1, 0);
         return x.person(0, 5);
     }
@@ -286,7 +267,7 @@ final class PromiseTest {
 
     private static void promise9() {
         part("promise 9");
-        PrisonWeddings x = laid("m0,1,3;w0,1,4;w2,1,60;m2,1,0;w1,0,0;m1,0,1;p0,7;p1,8;p2,1;l4;");
+        PrisonWeddings x = Play.laid("m0,1,3;w0,1,4;w2,1,60;m2,1,0;w1,0,0;m1,0,1;p0,7;p1,8;p2,1;l4;");
         is("alike", x.wed(0, 1, 1), BAD);
         is("person 6", x.wed(0, 1, 6), BAD);
         is("person -1", x.wed(0, -1, 1), BAD);
@@ -313,7 +294,7 @@ final class PromiseTest {
     }
 
     private static void lawAndRoom() {
-        PrisonWeddings x = laid("m2,1,60;w0,1,60;m0,1,0;w0,1,0;p0,1;p1,0;l4;");
+        PrisonWeddings x = Play.laid("m2,1,60;w0,1,60;m0,1,0;w0,1,0;p0,1;p1,0;l4;");
         for (int l = 0; l < 8; l++) {
             is("line " + l, x.wed(0, 0, 1), l);
         }
@@ -332,7 +313,7 @@ final class PromiseTest {
 
     private static void promise10() {
         part("promise 10");
-        PrisonWeddings x = laid("m0,9,60;w0,1,60;p0,1;p1,1;p2,1;l3;");
+        PrisonWeddings x = Play.laid("m0,9,60;w0,1,60;p0,1;p1,1;p2,1;l3;");
         is("plain", x.leave(0), NO);
         is("sly", x.leave(1), 0);
         is("sly again", x.leave(1), 1);
@@ -360,7 +341,7 @@ final class PromiseTest {
 
     private static void promise11() {
         part("promise 11");
-        PrisonWeddings x = laid("m0,9,8;w0,1,5;w2,0,60;m2,1,1;w1,1,0;p1,3;p2,3;l3;");
+        PrisonWeddings x = Play.laid("m0,9,8;w0,1,5;w2,0,60;m2,1,1;w1,1,0;p1,3;p2,3;l3;");
         x.leave(0);
         x.leave(0);
         x.leave(1);
@@ -510,7 +491,7 @@ final class PromiseTest {
 
     private static void promise16and17() {
         part("promises 16, 17");
-        PrisonWeddings x = laid("m2,0,60;m2,0,60;m2,0,60;w0,0,60;w0,0,60;w0,0,60;p0,0;p0,0;");
+        PrisonWeddings x = Play.laid("m2,0,60;m2,0,60;m2,0,60;w0,0,60;w0,0,60;w0,0,60;p0,0;p0,0;");
         x.wed(0, 0, 3);
         is("once", x.twice(), 0);
         is("none false", x.falseOnes(), 0);
@@ -538,7 +519,7 @@ final class PromiseTest {
 
     private static void promise18() {
         part("promise 18");
-        PrisonWeddings x = laid("m0,9,60;w0,0,60;p1,4;p2,4;p0,6;l9;");
+        PrisonWeddings x = Play.laid("m0,9,60;w0,0,60;p1,4;p2,4;p0,6;l9;");
         is("wedding", x.date(0, 0, 0), 4);
         is("wedding, the next one", x.date(0, 0, 1), 8);
         x.leave(0);
@@ -574,7 +555,7 @@ final class PromiseTest {
     }
 
     private static void dateWithoutRoom() {
-        PrisonWeddings x = laid("m0,9,60;w0,0,60;p2,1;");
+        PrisonWeddings x = Play.laid("m0,9,60;w0,0,60;p2,1;");
         x.leave(0);
         for (int l = 1; l < 8; l++) {
             x.wed(0, 0, 1);
@@ -606,7 +587,7 @@ final class PromiseTest {
 
     private static void promise20() {
         part("promise 20");
-        PrisonWeddings x = laid("m0,0,1;w0,0,2;m2,0,9;w2,0,60;w1,0,5;p0,7;p0,6;l2;");
+        PrisonWeddings x = Play.laid("m0,0,1;w0,0,2;m2,0,9;w2,0,60;w1,0,5;p0,7;p0,6;l2;");
         is("sailor", x.can(0), 16);
         is("maid", x.can(1), 4);
         is("lord", x.can(2), 2 + 8 + 16);
@@ -739,7 +720,7 @@ final class PromiseTest {
 
     private static void promise26() {
         part("promise 26");
-        PrisonWeddings x = laid("m0,0,3;w0,0,0;w2,0,60;m2,0,9;w1,0,0;p0,3;l5;");
+        PrisonWeddings x = Play.laid("m0,0,3;w0,0,0;w2,0,60;m2,0,9;w1,0,0;p0,3;l5;");
         chance(x, 0, 7, 1, 1);
         chance(x, 1, 0, 0, 1);
         chance(x, 1, 1, 271, 1000);
@@ -769,7 +750,7 @@ final class PromiseTest {
     }
 
     private static void toutsEdges() {
-        PrisonWeddings x = laid("w0,0,9;w0,0,9;w0,0,9;m0,0,9;m0,0,9;m0,0,9;p2,1;p0,1;l5;");
+        PrisonWeddings x = Play.laid("w0,0,9;w0,0,9;w0,0,9;m0,0,9;m0,0,9;m0,0,9;p2,1;p0,1;l5;");
         for (int l = 0; l < 6; l++) {
             x.leave(0);
         }
@@ -778,7 +759,7 @@ final class PromiseTest {
         chance(x, 2, 1, 7, 250);
         x.pass(5);
         chance(x, 1, 10, 0, 1);
-        PrisonWeddings all = laid("w0,0,9;w0,0,9;w0,0,9;w0,0,9;w0,0,9;w0,0,9;w0,0,9;w0,0,9;p0,0;");
+        PrisonWeddings all = Play.laid("w0,0,9;w0,0,9;w0,0,9;w0,0,9;w0,0,9;w0,0,9;w0,0,9;w0,0,9;p0,0;");
         chance(all, 0, 3, 1, 1);
         chance(all, 1, 3, 0, 1);
     }
@@ -855,7 +836,7 @@ final class PromiseTest {
         x.pass(2);
         x.see(0, 3, 1, true);
         x.keep();
-        writeAll(x, "xyz");
+        Play.writeAll(x, "xyz");
         int[] wants = {7, 3, 2, 30, 2, 1, 2, 1, 5, 1, 3};
         for (int what = 0; what < wants.length; what++) {
             is("count " + what, x.count(what), wants[what]);
