@@ -103,6 +103,22 @@ final class HoldEdgesTest {
         is("mate", x.mate(0, 999), NONE);
     }
 
+    /** All 24 LINES are gone through: the last one by day, PARSON and LINE HOLDS, if it is the first of its two. */
+    static void p15theLastOfTwentyFour() {
+        PrisonWeddings x = four();
+        for (int l = 0; l < 23; l++) {
+            x.wed(l / 8, 0, 4);
+        }
+        is("one holds", x.count(5), 1);
+        is("the last line", x.wed(2, 3, 7), 7);
+        is("two hold", x.count(5), 2);
+        is("it does", x.line(2, 7, 4), 1);
+        is("mate", x.mate(7, 0), 3);
+        is("true without the first, too", x.trueBy(0), 256 + 24);
+        x.strike(0, 0);
+        is("two hold still", x.count(5), 2);
+    }
+
     // ---- promise 15: mate
 
     /** "a day (0 to 999)" */
